@@ -423,6 +423,7 @@ public final class BackwardsLine {
             rumourEvery = other.rumourEvery;
         }
 
+        /** When he comes needs no look: two figures tell 99 at most, and none is below 0. */
         boolean addPerson(int ofKind, int comesIn, int ofKin) {
             if (people >= MOST_PEOPLE || ofKind >= KINDS_IN_ALL || ofKin > MOST_FAMILIES) {
                 return false;
@@ -607,16 +608,16 @@ public final class BackwardsLine {
         }
 
         private void joinAll(Plan plan) {
-            for (int p = 0; p < plan.people; p++) {
-                if (whereIs(p) == NOT_COME && plan.comingOf(p) == minute) {
+            for (int p = 0; p < plan.people && p < MOST_PEOPLE; p++) {
+                if (where[p] == NOT_COME && plan.coming[p] == minute) {
                     join(plan, p);
                 }
             }
         }
 
         private void sneezeAll(Plan plan) {
-            for (int p = 0; p < plan.people; p++) {
-                if (plan.kindOf(p) == SNEEZER && stoodOf(p) >= SNEEZES_AFTER) {
+            for (int p = 0; p < plan.people && p < MOST_PEOPLE; p++) {
+                if (where[p] == IN_LINE && plan.kind[p] == SNEEZER && stood[p] >= SNEEZES_AFTER) {
                     goToHead(p);
                 }
             }
