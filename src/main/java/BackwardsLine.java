@@ -310,7 +310,7 @@ public final class BackwardsLine {
         private int length;
 
         boolean put(int letter) {
-            if (length >= letters.length) {
+            if (length < 0 || length >= letters.length) {
                 return false;
             }
             letters[length] = letter;
@@ -425,7 +425,7 @@ public final class BackwardsLine {
 
         /** When he comes needs no look: two figures tell 99 at most, and none is below 0. */
         boolean addPerson(int ofKind, int comesIn, int ofKin) {
-            if (people >= MOST_PEOPLE || ofKind >= KINDS_IN_ALL || ofKin > MOST_FAMILIES) {
+            if (people < 0 || people >= MOST_PEOPLE || ofKind >= KINDS_IN_ALL || ofKin > MOST_FAMILIES) {
                 return false;
             }
             if (ofKin != 0 && howManyOf(ofKin) >= MOST_KIN) {
@@ -723,8 +723,8 @@ public final class BackwardsLine {
         private int held;
 
         Shelf(int most) {
-            lines = new Line[most];
-            for (int i = 0; i < most; i++) {
+            lines = new Line[Math.max(0, most)];
+            for (int i = 0; i < lines.length; i++) {
                 lines[i] = new Line();
             }
         }
@@ -765,7 +765,7 @@ public final class BackwardsLine {
         private int size;
 
         boolean add(int p, int t, boolean has) {
-            if (size >= MOST_SEEN) {
+            if (size < 0 || size >= MOST_SEEN) {
                 return false;
             }
             who[size] = p;
@@ -786,7 +786,7 @@ public final class BackwardsLine {
             for (int i = 0; i < minutesOn; i++) {
                 line.goOn(plan, plan.rumourIn(line.minute), false);
             }
-            for (int i = 0; i < size; i++) {
+            for (int i = 0; i < size && i < MOST_SEEN; i++) {
                 boolean hasEaten = line.whereIs(who[i]) == EATEN && line.ateInOf(who[i]) < start + minutes[i];
                 if (hasEaten != ate[i]) {
                     return false;
@@ -797,7 +797,7 @@ public final class BackwardsLine {
 
         private int latest() {
             int latest = 0;
-            for (int i = 0; i < size; i++) {
+            for (int i = 0; i < size && i < MOST_SEEN; i++) {
                 latest = Math.max(latest, minutes[i]);
             }
             return latest;
@@ -832,6 +832,9 @@ public final class BackwardsLine {
 
         /** On to the order next behind this one; false, if this one is the last. */
         boolean advance() {
+            if (size > MOST_KIN) {
+                return false;
+            }
             int turn = size - 2;
             while (turn >= 0 && members[turn] > members[turn + 1]) {
                 turn--;
@@ -851,19 +854,22 @@ public final class BackwardsLine {
         }
 
         private void swap(int i, int j) {
+            if (i < 0 || i >= MOST_KIN || j < 0 || j >= MOST_KIN) {
+                return;
+            }
             int first = members[i];
             members[i] = members[j];
             members[j] = first;
         }
 
         void tellComings(Plan plan, int first) {
-            for (int i = 0; i < size; i++) {
+            for (int i = 0; i < size && i < MOST_KIN; i++) {
                 plan.setComing(members[i], first + i);
             }
         }
 
         boolean allAte(Line line) {
-            for (int i = 0; i < size; i++) {
+            for (int i = 0; i < size && i < MOST_KIN; i++) {
                 if (line.whereIs(members[i]) != EATEN) {
                     return false;
                 }
@@ -873,7 +879,7 @@ public final class BackwardsLine {
 
         int longestWait(Line line, int first) {
             int longest = 0;
-            for (int i = 0; i < size; i++) {
+            for (int i = 0; i < size && i < MOST_KIN; i++) {
                 boolean ate = line.whereIs(members[i]) == EATEN;
                 int wait = ate ? line.ateInOf(members[i]) - first - i : MOST_WAITED;
                 longest = Math.max(longest, wait);

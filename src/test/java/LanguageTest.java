@@ -101,7 +101,7 @@ public final class LanguageTest {
         for (String line : code.split("\n")) {
             boolean inField = line.matches("\\s*private final \\S+ \\w+ = new .*");
             check.holds("made by a constructor: " + line, !line.contains("new ") || inField
-                    || line.contains("new Line[most]") || line.contains("lines[i] = new Line()"));
+                    || line.contains("new Line[Math.max(0, most)]") || line.contains("lines[i] = new Line()"));
         }
         Matcher method = Pattern.compile("(?m)^( {4}| {8})\\w[^;=\n]*\\) \\{$").matcher(code);
         int methods = 0;
