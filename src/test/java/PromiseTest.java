@@ -1,14 +1,5 @@
 /** Each promise by cases worked out by hand from the document, the model and the program aside. */
-public final class PromiseTest {
-    private static final int BAD = BackwardsLine.BAD, NO = BackwardsLine.NO;
-    private static final int FULL = BackwardsLine.FULL, NONE = BackwardsLine.NONE;
-    private static final int[] FAR_OFF = {Integer.MIN_VALUE, -1000, 1000, Integer.MAX_VALUE};
-
-    /** Three plain ones come in minute 1, so they stand 2, 1, 0 from the tail. */
-    private static final String THREE = "p0,1,0;p0,1,0;p0,1,0;";
-
-    private static final Check check = new Check();
-
+public final class PromiseTest extends Bench {
     public static void main(String[] args) {
         newObject();
         write();
@@ -50,40 +41,6 @@ public final class PromiseTest {
         backToWhatWasEaten();
         count();
         check.end("PromiseTest");
-    }
-
-    private static void due(String call, long got, long want) {
-        check.due(call, got, want);
-    }
-
-    private static void letters(BackwardsLine x, String text) {
-        for (int i = 0; i < text.length(); i++) {
-            x.write(text.charAt(i));
-        }
-    }
-
-    private static BackwardsLine laid(String text) {
-        BackwardsLine x = new BackwardsLine();
-        letters(x, text);
-        check.holds("lay() of " + text, x.lay() > 0);
-        return x;
-    }
-
-    private static BackwardsLine laid(String text, int minutes) {
-        BackwardsLine x = laid(text);
-        x.pass(minutes);
-        return x;
-    }
-
-    /** All that stand, from the tail on, and nobody behind them. */
-    private static void line(BackwardsLine x, int... people) {
-        due("count(2)", x.count(2), people.length);
-        for (int k = 0; k < people.length; k++) {
-            due("at(" + k + ")", x.at(k), people[k]);
-            due("person(" + people[k] + ", 3)", x.person(people[k], 3), 1);
-            due("person(" + people[k] + ", 4)", x.person(people[k], 4), k);
-        }
-        due("at(" + people.length + ")", x.at(people.length), NONE);
     }
 
     private static void newObject() {
