@@ -12,6 +12,7 @@ public final class CallEdgesTest extends Bench {
         writeRefused();
         layRefused();
         laidAnew();
+        laidOfFewer();
         passRefused();
         giveUpRefused();
         sneezeRefused();
@@ -205,6 +206,24 @@ public final class CallEdgesTest extends Bench {
         due("back()", x.back(), NO);
         due("forget()", x.forget(), 0);
         check.holds("as a new one by the same text", story(x).equals(story(laid(FIVE))));
+    }
+
+    private static void laidOfFewer() {
+        check.promise("5 LAID: how many PERSONS");
+        BackwardsLine x = laid("p0,0,1;p0,9,1;p2,9,1;b1,9;r2;");
+        x.wipe();
+        letters(x, "p0,9,1;b1,9;");
+        due("lay()", x.lay(), 1);
+        due("count(0)", x.count(0), 1);
+        due("person(0, 1)", x.person(0, 1), 9);
+        due("person(1, 1)", x.person(1, 1), BAD);
+        due("family(1, 0)", x.family(1, 0), 0);
+        due("family(1, 1)", x.family(1, 1), 0);
+        due("family(1, 2)", x.family(1, 2), NONE);
+        due("sneezed()", x.sneezed(), 512);
+        due("pass(9)", x.pass(9), 0);
+        line(x);
+        due("pass(1)", x.pass(1), 1);
     }
 
     private static void passRefused() {

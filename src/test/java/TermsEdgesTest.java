@@ -22,6 +22,7 @@ public final class TermsEdgesTest extends Bench {
         sneezesInTheLineAlone();
         loafIfSomebodyStands();
         loafByPride();
+        loafByPrideOfNine();
         eatenIsNotInTheLine();
         standsAMinuteMore();
         givesUpToTheHead();
@@ -40,6 +41,7 @@ public final class TermsEdgesTest extends Bench {
         besidesLikewise();
         besidesNinetyNine();
         familyOfThoseToCome();
+        familyBehindALargerOne();
         familyNotWhenTheyWereTo();
         familyLastOrders();
         familyOfSeveralTheFirst();
@@ -59,9 +61,12 @@ public final class TermsEdgesTest extends Bench {
         dayOfSixty();
         dayOfOneToComeOrFed();
         dayByPersons();
+        dayOfOne();
+        dayAtTheHead();
         dayByDraws();
         keptAreTwo();
         keptRoundAndRound();
+        keptIsWhichLoafWhen();
         keptIsAllButSeenAndText();
         check.end("TermsEdgesTest");
     }
@@ -139,10 +144,11 @@ public final class TermsEdgesTest extends Bench {
         check.promise("he stands at the TAIL");
         for (int kind = 0; kind <= 3; kind++) {
             line(laid("p" + kind + ",1,0;b9,5;", 2), 0);
-            BackwardsLine x = laid("p" + kind + ",1,1;p1,50,0;b9,5;", 2);
+            BackwardsLine x = laid("p" + kind + ",1,0;b9,5;", 2);
             x.leave(0);
             due("again(0)", x.again(0), 0);
             line(x, 0);
+            line(laid("p" + kind + ",1,0;p0,3,0;b2,5;", 4), 1); // the one who stood there has EATEN
         }
     }
 
@@ -154,6 +160,8 @@ public final class TermsEdgesTest extends Bench {
                     BackwardsLine x = laid("p" + kind + ",1," + f + ";p" + kind + ",2," + g + ";b9,5;", 3);
                     boolean next = kind == 1 && (f != g || f == 0);
                     line(x, next ? 0 : 1, next ? 1 : 0);
+                    BackwardsLine y = laid("p" + kind + ",2," + g + ";p" + kind + ",1," + f + ";b9,5;", 3);
+                    line(y, next ? 1 : 0, next ? 0 : 1);
                 }
             }
         }
@@ -287,6 +295,15 @@ public final class TermsEdgesTest extends Bench {
             due("when(" + tail + ") of " + text, laid(text + "b2,5;", 2).when(tail), 1);
             due("when(" + head + ") of " + text + " by a RUMOUR", laid(text + "b2,5;r2;", 2).when(head), 1);
         }
+    }
+
+    private static void loafByPrideOfNine() {
+        check.promise("that is not PROUD; if all are PROUD, to the one nearest to it");
+        String proud = "p3,1,0;".repeat(8);
+        due("when(0)", laid("p0,1,0;" + proud + "b2,5;", 2).when(0), 1);
+        due("when(8) by a RUMOUR", laid(proud + "p0,1,0;b2,5;r2;", 2).when(8), 1);
+        due("when(8), all PROUD", laid(proud + "p3,1,0;b2,5;", 2).when(8), 1);
+        due("when(0), all PROUD, by a RUMOUR", laid(proud + "p3,1,0;b2,5;r2;", 2).when(0), 1);
     }
 
     private static void eatenIsNotInTheLine() {
@@ -576,6 +593,14 @@ public final class TermsEdgesTest extends Bench {
         }
     }
 
+    private static void familyBehindALargerOne() {
+        check.promise("of those of it");
+        BackwardsLine x = laid("p0,50,1;".repeat(5) + "p0,50,2;b2,9;", 1);
+        due("family(1, 5)", x.family(1, 5), 4);
+        family(x, 2, 1, 5);
+        due("family(1, 1)", x.family(1, 1), 0);
+    }
+
     private static void familyNotWhenTheyWereTo() {
         check.promise("the first coming in the next MINUTE, the second in the one behind that, .. (not when they were to)");
         family(laid("p3,0,1;p0,0,1;b1,9;"), 1, 0, 0, 1); // both in minute 0, one would wait
@@ -852,6 +877,31 @@ public final class TermsEdgesTest extends Bench {
         due("day(" + z + ", 60, 1) of " + people, x.day(z, 60, 1), warm);
     }
 
+    private static void dayOfOne() {
+        check.promise("modulo as many as there are");
+        for (int z = 0; z <= 9999; z += 99) {
+            BackwardsLine x = laid("p0,1,0;b2,7;", 2);
+            due("day(" + z + ", 1, 0) of one in the LINE", x.day(z, 1, 0), draw(z, 0) % 5 == 2 ? 0 : 1);
+            x.leave(0);
+            due("day(" + z + ", 1, 0) of one AWAY", x.day(z, 1, 0), draw(z, 0) % 5 == 3 ? 1 : 0);
+        }
+    }
+
+    private static void dayAtTheHead() {
+        check.promise("GIVES UP his place, if DRAW modulo 5 is 0, .. if that can be");
+        BackwardsLine x = laid("p0,1,0;p0,1,0;b2,9;", 2);
+        x.giveUp(1);
+        due("day(45, 3, 0): 7065, 48693, 17647: 1 can't give up, then leaves", x.day(45, 3, 0), 1);
+        due("day(45, 3, 1)", x.day(45, 3, 1), 9);
+        for (int z = 0; z <= 999; z++) {
+            if (draw(z, 0) % 5 == 0 && draw(z, 0) / 8 % 9 == 0) {
+                BackwardsLine nine = laid(NINE + "b2,9;", 2);
+                due("day(" + z + ", 1, 0) of nine", nine.day(z, 1, 0), 1);
+                due("day(" + z + ", 1, 1) of nine", nine.day(z, 1, 1), 9);
+            }
+        }
+    }
+
     private static void dayByDraws() {
         check.promise("GIVES UP his place, if DRAW modulo 5 is 0, SNEEZES, if it is 1, LEAVES, if it is 2, comes AGAIN, if it is 3");
         // 1 stands at the TAIL, 0 at the HEAD; ahead of the DAY's first minute and of its third LOAVES are to be given
@@ -913,6 +963,22 @@ public final class TermsEdgesTest extends Bench {
             due("back()", x.back(), NO);
             x.pass(3);
         }
+    }
+
+    private static void keptIsWhichLoafWhen() {
+        check.promise("KEPT is all as it stands");
+        BackwardsLine x = laid(THREE + "b2,9;", 2);
+        x.pass(1);
+        x.keep();
+        x.undo();
+        x.sneeze(2);
+        x.pass(5);
+        due("person(2, 6)", x.person(2, 6), 6);
+        due("person(2, 7)", x.person(2, 7), 7);
+        due("back()", x.back(), 0);
+        due("person(2, 6)", x.person(2, 6), 2);
+        due("person(2, 7)", x.person(2, 7), 9);
+        due("person(1, 6)", x.person(1, 6), NONE);
     }
 
     private static void keptIsAllButSeenAndText() {
