@@ -70,6 +70,13 @@ abstract class Bench {
         }
     }
 
+    /** RUMOURS, above and below. */
+    static void chance(BackwardsLine x, int p, int n, int tenths, int above, int below) {
+        String call = "rumours(" + p + ", " + n + ", " + tenths + ", ";
+        due(call + "0)", x.rumours(p, n, tenths, 0), above);
+        due(call + "1)", x.rumours(p, n, tenths, 1), below);
+    }
+
     static boolean in(int x, int low, int high) {
         return low <= x && x <= high;
     }

@@ -5,6 +5,8 @@ public final class ModelTest {
     private static final Check check = new Check();
     private static final int RUNS = 1500;
     private static final int CALLS = 512; // what an object is used for at most
+    private static final int ONE_LOOK = 22; // calls
+    private static final int ONE_LAYING = 250; // calls
 
     private final BackwardsLine line = new BackwardsLine();
     private final Model model = new Model();
@@ -28,7 +30,7 @@ public final class ModelTest {
         if (random.nextInt(4) != 0) {
             layAnew();
         }
-        while (calls < CALLS) {
+        while (calls <= CALLS - ONE_LOOK) {
             int dice = random.nextInt(100);
             if (dice < 35) {
                 move();
@@ -38,7 +40,7 @@ public final class ModelTest {
                 ask();
             } else if (dice < 98) {
                 seenKeptOrDay();
-            } else if (calls < CALLS - 220) {
+            } else if (calls <= CALLS - ONE_LAYING) {
                 layAnew();
             }
         }
@@ -48,6 +50,9 @@ public final class ModelTest {
         calls++;
         told.append(call).append(' ');
         check.due(call + " behind [" + (got == want ? "" : told) + "]", got, want);
+        if (calls > CALLS) {
+            throw new IllegalStateException("an object is used for too many calls");
+        }
     }
 
     private int upTo(int high) {

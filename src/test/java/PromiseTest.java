@@ -38,7 +38,6 @@ public final class PromiseTest extends Bench {
         rumoursWhateverIsTold();
         day();
         keepAndBack();
-        backToWhatWasEaten();
         count();
         check.end("PromiseTest");
     }
@@ -728,12 +727,6 @@ public final class PromiseTest extends Bench {
         due("kinds(1)", z.kinds(1), 0b1000);
     }
 
-    private static void chance(BackwardsLine x, int p, int n, int tenths, int above, int below) {
-        String call = "rumours(" + p + ", " + n + ", " + tenths + ", ";
-        due(call + "0)", x.rumours(p, n, tenths, 0), above);
-        due(call + "1)", x.rumours(p, n, tenths, 1), below);
-    }
-
     private static void rumours() {
         check.promise("25 rumours");
         BackwardsLine x = laid(THREE + "b1,9;", 1);
@@ -839,23 +832,6 @@ public final class PromiseTest extends Bench {
         due("warmth(1)", x.warmth(1), 9);
         due("back()", x.back(), NO);
         due("count(8)", x.count(8), 0);
-    }
-
-    private static void backToWhatWasEaten() {
-        check.promise("28 back");
-        BackwardsLine x = laid(THREE + "b2,9;", 2);
-        x.pass(1);
-        x.keep();
-        due("undo()", x.undo(), 1);
-        x.sneeze(2);
-        x.pass(5);
-        due("person(2, 6)", x.person(2, 6), 6);
-        due("person(2, 7)", x.person(2, 7), 7);
-        due("back()", x.back(), 0);
-        due("person(2, 6)", x.person(2, 6), 2);
-        due("person(2, 7)", x.person(2, 7), 9);
-        due("person(1, 7)", x.person(1, 7), NONE);
-        line(x, 1, 0);
     }
 
     private static void count() {

@@ -753,12 +753,6 @@ public final class TermsEdgesTest extends Bench {
         }
     }
 
-    private static void chance(BackwardsLine x, int p, int n, int tenths, int above, int below) {
-        String call = "rumours(" + p + ", " + n + ", " + tenths + ", ";
-        due(call + "0)", x.rumours(p, n, tenths, 0), above);
-        due(call + "1)", x.rumours(p, n, tenths, 1), below);
-    }
-
     private static void rumoursOfNoMinutes() {
         check.promise("in each of n (0 to 8) MINUTES from now on");
         BackwardsLine x = laid(THREE + "b2,9;", 3);
