@@ -485,6 +485,19 @@ public final class TermsEdgesTest extends Bench {
         x.leave(0);
         due("when(0), AWAY", x.when(0), NONE);
         due("when(1)", x.when(1), 71);
+        // all are AWAY in minute 9 and AGAIN ahead of minute 10: the ninth LOAF comes in 90, as late as can be
+        BackwardsLine late = laid(NINE + "b9,5;", 2);
+        for (int p = 0; p < 9; p++) {
+            late.leave(p);
+        }
+        due("pass(8)", late.pass(8), 0);
+        for (int p = 0; p < 9; p++) {
+            late.again(p);
+        }
+        due("when(8)", late.when(8), 9);
+        due("when(0)", late.when(0), 81);
+        due("pays()", late.pays(), 0b011111111);
+        due("gains()", late.gains(), 0);
     }
 
     private static void paysSooner() {
