@@ -734,7 +734,7 @@ public final class BackwardsLine {
         }
 
         void push(Line line) {
-            if (top < 0 || top >= lines.length) {
+            if (top < 0 || top >= lines.length || lines[top] == null) {
                 return;
             }
             lines[top].copyFrom(line);
@@ -747,7 +747,7 @@ public final class BackwardsLine {
                 return false;
             }
             int last = top > 0 ? top - 1 : lines.length - 1;
-            if (last < 0 || last >= lines.length) {
+            if (last < 0 || last >= lines.length || lines[last] == null) {
                 return false;
             }
             line.copyFrom(lines[last]);
