@@ -6,7 +6,9 @@ import java.nio.charset.StandardCharsets;
 import java.nio.file.Files;
 import java.nio.file.Path;
 import java.util.Arrays;
+import java.util.Map;
 import java.util.Set;
+import java.util.TreeMap;
 import java.util.TreeSet;
 import java.util.regex.Matcher;
 import java.util.regex.Pattern;
@@ -20,6 +22,8 @@ public final class LanguageTest {
     private static final String[] RULED_OUT = {"import ", "package ", "try ", "catch", "finally", "throw", "->", "::",
         "synchronized", "assert", "static {", "System.out", "Object ", "double", "float", ".equals", "hashCode",
         "toString", "protected", "native", "volatile", "Random", "currentTime", "nanoTime", "Exact", "lambda"};
+    private static final Pattern METHOD = Pattern.compile(
+            "(?m)^( {4}| {8})(?!if |for |while |switch |else )(?=\\w)[^;=\n]*?\\b(\\w+)\\([^;=\n]*\\) \\{$");
     private static final Check check = new Check();
 
     public static void main(String[] args) throws Exception {
@@ -103,14 +107,53 @@ public final class LanguageTest {
             check.holds("made by a constructor: " + line, !line.contains("new ") || inField
                     || line.contains("new Line[Math.max(0, most)]") || line.contains("lines[i] = new Line()"));
         }
-        Matcher method = Pattern.compile("(?m)^( {4}| {8})\\w[^;=\n]*\\) \\{$").matcher(code);
-        int methods = 0;
+        Map<String, String> bodies = bodies(code);
+        check.holds("methods were found", bodies.size() > 60);
+        check.holds("and nothing else " + bodies.keySet(), bodies.keySet().equals(declared()));
+        depth(bodies);
+    }
+
+    /** By name: methods of one name in several classes are taken as one, so that no call is missed. */
+    private static Map<String, String> bodies(String code) {
+        Map<String, String> bodies = new TreeMap<>();
+        Matcher method = METHOD.matcher(code);
         while (method.find()) {
-            methods++;
             int end = code.indexOf("\n" + method.group(1) + "}\n", method.end());
             long lines = code.substring(method.start(), end).lines().count();
             check.holds(method.group().trim() + " is short", lines <= 60);
+            bodies.merge(method.group(2), code.substring(method.end(), end), String::concat);
         }
-        check.holds("methods were found", methods > 60);
+        return bodies;
+    }
+
+    /** Names of all methods, and of those constructors that are written out. */
+    private static Set<String> declared() {
+        Set<String> names = new TreeSet<>(Set.of("BackwardsLine", "Shelf"));
+        for (Class<?> c : allClasses()) {
+            for (Method m : c.getDeclaredMethods()) {
+                names.add(m.getName());
+            }
+        }
+        return names;
+    }
+
+    /** Rule 8: nothing calls itself; rule 11: calls go at most eight deep, one of the library counted too. */
+    private static void depth(Map<String, String> bodies) {
+        for (String name : bodies.keySet()) {
+            int deep = depthOf(name, bodies, 1);
+            check.holds(name + " goes " + deep + " calls deep", deep <= 8);
+        }
+    }
+
+    private static int depthOf(String name, Map<String, String> bodies, int level) {
+        int deepest = level;
+        if (level > 8 || !bodies.containsKey(name)) {
+            return level;
+        }
+        Matcher call = Pattern.compile("(\\w+)\\(").matcher(bodies.get(name));
+        while (call.find()) {
+            deepest = Math.max(deepest, depthOf(call.group(1), bodies, level + 1));
+        }
+        return deepest;
     }
 }
